@@ -18,7 +18,7 @@ public final class DarkLeavers {
 
     private final Text text = new Text();
     private final Now now = new Now();
-    private final Now[] images = new Now[IMAGE_LIMIT];
+    private final Now imageZero = new Now(), imageOne = new Now();
     private final boolean[] kept = new boolean[IMAGE_LIMIT];
     // The draft is read into while the told hall must stay as it is, for a text may have a fault.
     private Hall told = new Hall();
@@ -27,9 +27,6 @@ public final class DarkLeavers {
     private long traced = 0L;
 
     public DarkLeavers() {
-        for (int image = 0; image < IMAGE_LIMIT; image++) {
-            images[image] = new Now();
-        }
         told.lightUp();
     }
 
@@ -273,7 +270,7 @@ public final class DarkLeavers {
         if (image < 0 || image >= IMAGE_LIMIT) {
             return BAD;
         }
-        images[image].copyFrom(now);
+        imageOf(image).copyFrom(now);
         kept[image] = true;
         return now.left;
     }
@@ -285,8 +282,12 @@ public final class DarkLeavers {
         if (!kept[image]) {
             return STATE;
         }
-        now.copyFrom(images[image]);
+        now.copyFrom(imageOf(image));
         return now.left;
+    }
+
+    private Now imageOf(int image) {
+        return image == 0 ? imageZero : imageOne;
     }
 
     public int count(int what) {
@@ -756,10 +757,10 @@ public final class DarkLeavers {
         // By the set of lamps that are lit.
         private final int[] longest = new int[LAMP_SETS_WITH_ONE_MORE];
         private final int[] ways = new int[LAMP_SETS];
-        // By the set of people there, times LAMP_SETS, and the set of lamps lit; made when first asked.
+        // By the set of people there and the set of lamps lit; filled when first asked of a hall.
         private final int[] griefs = new int[PEOPLE_SETS * LAMP_SETS];
         private final int[] wins = new int[PEOPLE_SETS * LAMP_SETS];
-        private boolean griefsKnown, winsKnown;
+        private boolean tablesKnown;
         int chosenPerson, chosenLamp;
 
         Outlook(Hall newHall) {
@@ -768,8 +769,7 @@ public final class DarkLeavers {
 
         void lookAt(Hall newHall) {
             hall = newHall;
-            griefsKnown = false;
-            winsKnown = false;
+            tablesKnown = false;
         }
 
         int mostOf(int people, int lit) {
@@ -889,19 +889,28 @@ public final class DarkLeavers {
         }
 
         int griefOf(int people, int lit) {
-            if (!griefsKnown) {
-                fillGriefs();
-                griefsKnown = true;
-            }
+            fillTables();
             int least = griefs[placeIn(people, lit)];
             return least >= IMPOSSIBLE ? NONE : least;
         }
 
-        private void fillGriefs() {
+        int winnerOf(int people, int lit) {
+            fillTables();
+            return bitOf(wins[placeIn(people, lit)], 0) == 1 ? 0 : 1;
+        }
+
+        /** With everyone who leaves one lamp goes out, so of all sets only those of like sizes come together. */
+        private void fillTables() {
+            if (tablesKnown) {
+                return;
+            }
+            tablesKnown = true;
             for (int people = 0; people <= hall.allPeople(); people++) {
+                int burning = hall.lamps - hall.people + Integer.bitCount(people);
                 for (int lit = 0; lit <= hall.allLamps(); lit++) {
-                    if (canCome(people, lit)) {
+                    if (Integer.bitCount(lit) == burning) {
                         griefs[placeIn(people, lit)] = leastGrief(people, lit);
+                        wins[placeIn(people, lit)] = sidesThatWin(people, lit);
                     }
                 }
             }
@@ -932,25 +941,7 @@ public final class DarkLeavers {
             return least;
         }
 
-        int winnerOf(int people, int lit) {
-            if (!winsKnown) {
-                fillWins();
-                winsKnown = true;
-            }
-            return bitOf(wins[placeIn(people, lit)], 0) == 1 ? 0 : 1;
-        }
-
-        /** A win is a bit for each side: it wins if it is its turn. */
-        private void fillWins() {
-            for (int people = 0; people <= hall.allPeople(); people++) {
-                for (int lit = 0; lit <= hall.allLamps(); lit++) {
-                    if (canCome(people, lit)) {
-                        wins[placeIn(people, lit)] = sidesThatWin(people, lit);
-                    }
-                }
-            }
-        }
-
+        /** A bit for each side that wins if it is its turn. */
         private int sidesThatWin(int people, int lit) {
             int found = 0;
             for (int p = 0; p < hall.people; p++) {
@@ -970,11 +961,6 @@ public final class DarkLeavers {
                 }
             }
             return false;
-        }
-
-        /** With everyone who leaves one lamp goes out, so only these sets come together. */
-        private boolean canCome(int people, int lit) {
-            return hall.people - Integer.bitCount(people) == hall.lamps - Integer.bitCount(lit);
         }
 
         private static int placeIn(int people, int lit) {

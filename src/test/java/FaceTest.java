@@ -32,9 +32,9 @@ public final class FaceTest {
     }
 
     private static void methods() {
-        TreeSet<String> due1 = new TreeSet<>();
+        TreeSet<String> wanted = new TreeSet<>();
         for (String call : FACE) {
-            due1.add(call);
+            wanted.add(call);
         }
         TreeSet<String> names = new TreeSet<>();
         TreeSet<String> found = new TreeSet<>();
@@ -44,7 +44,7 @@ public final class FaceTest {
                 names.add(m.getName());
             }
         }
-        due.holds("the methods are the document's: " + found, found.equals(due1));
+        due.holds("the methods are the document's: " + found, found.equals(wanted));
         for (Method m : DarkLeavers.class.getDeclaredMethods()) {
             boolean own = Modifier.isPrivate(m.getModifiers());
             due.holds("a name of its own: " + m.getName(), !own || !names.contains(m.getName()));

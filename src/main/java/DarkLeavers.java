@@ -26,8 +26,8 @@ public final class DarkLeavers {
     private final Outlook outlook = new Outlook(told);
     private long traced = 0L;
 
+    /** Without lamps nothing is light and nobody can leave: the tables of a new hall say so already. */
     public DarkLeavers() {
-        told.lightUp();
     }
 
     // ---- the hall
@@ -916,14 +916,18 @@ public final class DarkLeavers {
             }
         }
 
+        /** Who can't leave now never can, so all who are there must be able to. */
         private int leastGrief(int people, int lit) {
             if (people == 0) {
                 return 0;
             }
+            if ((people & ~hall.leavers[lit]) != 0) {
+                return IMPOSSIBLE;
+            }
             int ahead = hall.people - Integer.bitCount(people);
             int least = IMPOSSIBLE;
             for (int p = 0; p < hall.people; p++) {
-                if (bitOf(people & hall.leavers[lit], p) == 1) {
+                if (bitOf(people, p) == 1) {
                     int own = Math.abs(hall.wish[p] - ahead);
                     least = Math.min(least, own + leastGriefBehind(people & ~(1 << p), lit));
                 }

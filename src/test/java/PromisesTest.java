@@ -166,6 +166,22 @@ public final class PromisesTest {
         due.is("4 image 1 is gone", x.back(1), -2);
         due.is("4 nothing to undo", x.undo(), -2);
         due.is("4 the trace stays", x.trace(), 1);
+        Due.typeAll(x, "hall 2 1;wall 1 0;law 1;door 0 0;lamp 0 0 0;person 0 0 0 0;");
+        due.is("4 another", x.hall(), 6);
+        due.is("4 another's grief", x.grief(), 0);
+        Due.typeAll(x, "person 0 0 3 0;");
+        due.is("4 a third", x.hall(), 1);
+        due.is("4 grief of the third", x.grief(), -9);
+        int[] counts = {12, 0, 1, 0, 0, 0, 0, 0};
+        x.hall();
+        Due.typeAll(x, "person 0 0 3 0;");
+        x.hall();
+        for (int what = 0; what < counts.length; what++) {
+            due.is("4 nothing of the halls before: " + what, x.count(what), counts[what]);
+        }
+        for (int c = 0; c < 12; c++) {
+            due.is("4 no wall of the halls before", x.cell(c, 0) + x.cell(c, 1), 0);
+        }
     }
 
     private static void fault(String text, int place) {
@@ -231,6 +247,8 @@ public final class PromisesTest {
         fault("lamp 0 0 0;{", 11);
         fault("lamp 0 0 0;`", 11);
         fault("lampe 0 0 0;", 0);
+        fault("lampz 0 0 0;", 0);
+        fault("lampa 0 0 0;", 0);
         fault("people 0 0 0 0;", 0);
         fault("\u0000", 0);
         DarkLeavers x = new DarkLeavers();
@@ -263,6 +281,8 @@ public final class PromisesTest {
         due.is("5 what -1", x.cell(0, -1), -1);
         x.leaves(0, 0);
         due.is("5 dark now", x.cell(0, 2), 0);
+        DarkLeavers doors = Due.told("door 1 0;door 3 2;door 1 0;");
+        due.is("5 several doors", doors.cell(1, 1) + doors.cell(11, 1), 2);
     }
 
     private static void lamp() {
@@ -661,6 +681,25 @@ public final class PromisesTest {
         due.is("23 kept anew", x.keep(0), 3);
         x.undo();
         due.is("24 as kept anew", x.back(0), 3);
+        DarkLeavers y = Due.told(ROW);
+        y.saw(1, 0, 0);
+        y.keep(1);
+        y.forget();
+        y.saw(2, 3, 1);
+        y.leaves(1, 1);
+        due.is("24 other things seen", y.fits(), 0);
+        y.back(1);
+        due.is("24 what was seen, as it was", y.fits(), 1);
+        due.is("24 who put it out", y.who(0), 1);
+        due.is("24 person 1 can leave again", y.can(1), 1);
+        y.leaves(1, 1);
+        y.keep(0);
+        y.undo();
+        y.leaves(0, 0);
+        y.back(0);
+        y.undo();
+        due.is("24 the lamp undone is the image's", y.lamp(1, 2), 1);
+        due.is("24 so all are lit", y.count(3), 2);
     }
 
     private static void count() {

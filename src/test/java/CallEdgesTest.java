@@ -7,6 +7,9 @@ public final class CallEdgesTest {
     // Cells 0 1 2 3 7 11 10 9 8 in a row round two walls: the longest way that a hall can have, of eight steps.
     private static final String SNAKE = "wall 0 1;wall 1 1;wall 2 1;";
     private static final int[] ON_THE_WAY = {0, 1, 2, 3, 7, 11, 10, 9, 8};
+    // Lamp 2 shines on all, lamp 0 on person 0, lamp 1 on person 1: twelve rows, whichever goes first.
+    private static final String THREE_LAMPS =
+            "hall 3 1;lamp 0 0 0;lamp 1 0 0;lamp 2 0 9;person 0 0 0 0;person 1 0 0 0;";
     private static final Due due = new Due("CallEdgesTest");
 
     public static void main(String[] args) {
@@ -23,6 +26,7 @@ public final class CallEdgesTest {
         leavesOneToSix();
         undoSixToNone();
         everySizeOfHall();
+        cellsOfEachHall();
         someMustStay();
         orderTurnByTurn();
         barOfSeveral();
@@ -36,6 +40,8 @@ public final class CallEdgesTest {
         marks();
         trace();
         images();
+        imagesKeepTheOrder();
+        imagesKeepWhatWasSeen();
         imagesKeepNothingElse();
         counts();
         fiveHundredAndTwelveCalls();
@@ -264,7 +270,45 @@ public final class CallEdgesTest {
                 for (int l = 0; l < lamps; l++) {
                     due.is("21 " + name + "who " + l, x.who(l), rows == 0 ? 0 : (1 << people) - 1);
                 }
-                due.is("21 " + name + "no lamp", x.who(lamps), -1);
+                noSuchThing(name, x, lamps, people);
+            }
+        }
+    }
+
+    // "BAD (.. there is no such thing)": the first number behind the last lamp and the last one.
+    private static void noSuchThing(String name, DarkLeavers x, int lamps, int people) {
+        due.is("6 " + name + "no lamp", x.lamp(lamps, 2), -1);
+        due.is("7 " + name + "no such one", x.person(people, 3), -1);
+        due.is("8 " + name + "no such one", x.can(people), -1);
+        due.is("9 " + name + "no such one", x.leaves(people, 0), -1);
+        due.is("9 " + name + "no lamp", x.leaves(0, lamps), -1);
+        due.is("21 " + name + "no lamp", x.who(lamps), -1);
+        due.is("22 " + name + "no such one", x.mark(0, people), -1000000);
+        if (people > 0) {
+            due.is("7 " + name + "the last one", x.person(people - 1, 3), NONE);
+            due.is("8 " + name + "the last one", x.can(people - 1), lamps > 0 ? 1 : 0);
+            due.is("22 " + name + "the last one", x.mark(4, people - 1), lamps - 11);
+        }
+        if (people > 0 && lamps > 0) {
+            due.is("9 " + name + "the last one, the last lamp", x.leaves(people - 1, lamps - 1), 1);
+        }
+    }
+
+    // "Of a CELL", "WORTH", "After so many a CELL was LIGHT": the last cell of each hall, and the first that is none.
+    private static void cellsOfEachHall() {
+        for (int wide = 1; wide <= 4; wide++) {
+            for (int high = 1; high <= 3; high++) {
+                int cells = wide * high;
+                DarkLeavers x = Due.told("hall " + wide + " " + high + ";person " + (wide - 1) + " " + (high - 1) + " 0 0;");
+                String name = " of " + wide + " by " + high;
+                due.is("5 the last cell" + name, x.cell(cells - 1, 2), 0);
+                due.is("5 none" + name, x.cell(cells, 2), -1);
+                due.is("17 the last cell" + name, x.worth(cells - 1, 0), 1);
+                due.is("17 none" + name, x.worth(cells, 0), -1);
+                due.is("18 the last cell" + name, x.saw(0, cells - 1, 0), 1);
+                due.is("18 none" + name, x.saw(0, cells, 0), -1);
+                due.is("25 cells" + name, x.count(0), cells);
+                due.is("25 seen" + name, x.count(6), 1);
             }
         }
     }
@@ -320,20 +364,31 @@ public final class CallEdgesTest {
     // "the first by people, then by LAMPS, turn by turn"
     private static void orderTurnByTurn() {
         // Person 0 could put out lamp 0 only by barring person 1, so lamp 1 goes first.
-        DarkLeavers x = Due.told("hall 2 1;lamp 1 0 0;lamp 0 0 0;person 0 0 0 0;person 1 0 0 0;");
-        int[] want = {0, 1, 1, 0};
-        for (int i = 0; i < 4; i++) {
-            due.is("12 turn " + i / 2, x.order(i / 2, i % 2), want[i]);
-        }
+        inOrder("hall 2 1;lamp 1 0 0;lamp 0 0 0;person 0 0 0 0;person 1 0 0 0;", 0, 1, 1, 0);
         // Person 0 can't leave at all, so person 1 is the first.
         DarkLeavers y = Due.told("hall 2 1;lamp 1 0 0;person 0 0 0 0;person 1 0 0 0;");
         due.is("12 the first who can", y.order(0, 0), 1);
+        // Person 0 sits in the dark; person 1 must leave lamp 0 for person 2, though it could stay by lamp 1 itself.
+        inOrder("hall 3 1;lamp 1 0 0;lamp 0 0 0;person 2 0 0 0;person 0 0 0 0;person 1 0 0 0;", 1, 1, 2, 0);
+        // Each needs a lamp of its own, and person 0's is the last.
+        inOrder("hall 3 1;lamp 1 0 0;lamp 2 0 0;lamp 0 0 0;person 0 0 0 0;person 1 0 0 0;person 2 0 0 0;",
+                0, 2, 1, 0, 2, 1);
+        inOrder("hall 3 1;lamp 2 0 0;lamp 1 0 0;lamp 0 0 0;person 0 0 0 0;person 1 0 0 0;person 2 0 0 0;",
+                0, 2, 1, 1, 2, 0);
         // Person 0 has gone by lamp 0: neither comes in an order from now.
         DarkLeavers z = Due.told("hall 2 1;lamp 1 0 0;lamp 0 0 0;person 1 0 0 0;person 0 0 0 0;");
         z.leaves(0, 0);
         due.is("12 from now", z.order(0, 0), 1);
         due.is("12 the lamp that is lit", z.order(0, 1), 1);
         due.is("12 none more", z.order(1, 0), NOT_SO_MANY);
+    }
+
+    private static void inOrder(String text, int... want) {
+        DarkLeavers x = Due.told(text);
+        for (int i = 0; i < want.length; i++) {
+            due.is("12 turn " + i / 2 + " of " + text, x.order(i / 2, i % 2), want[i]);
+        }
+        due.is("12 none more of " + text, x.order(want.length / 2, 0), NOT_SO_MANY);
     }
 
     // "the fewest LAMPS .. of several the least bits": fewer lamps go ahead of less bits.
@@ -454,8 +509,7 @@ public final class CallEdgesTest {
 
     // "after so many had LEFT (0 .. 6)": ahead of the first, and behind the last.
     private static void seenAtBothEnds() {
-        String text = "hall 3 1;lamp 0 0 0;lamp 1 0 0;lamp 2 0 9;person 0 0 0 0;person 1 0 0 0;";
-        DarkLeavers x = Due.told(text);
+        DarkLeavers x = Due.told(THREE_LAMPS);
         due.is("20 all rows", x.fits(), 12);
         x.saw(0, 2, 1);
         due.is("20 so it was at first", x.fits(), 12);
@@ -483,6 +537,16 @@ public final class CallEdgesTest {
         x.leaves(0, 0);
         x.leaves(1, 1);
         due.is("21 from the beginning", x.who(0), 1);
+        x.saw(1, 0, 1);
+        due.is("21 it was the last", x.who(0), 1);
+        due.is("21 it was the first", x.who(1), 2);
+        x.forget();
+        x.saw(1, 0, 0);
+        due.is("21 it was the first", x.who(0), 1);
+        due.is("21 it was the last", x.who(1), 2);
+        DarkLeavers dark = Due.told("hall 3 1;lamp 0 0 0;lamp 0 0 0;lamp 1 0 0;lamp 1 0 0;"
+                + "person 0 0 0 0;person 1 0 0 0;person 2 0 0 0;");
+        due.is("21 one stays in the dark", dark.who(0) + dark.who(1) + dark.who(2) + dark.who(3), 0);
     }
 
     // "0 GUEST; 1 AUNT, 2 WAITER, 5 FIDDLER .. 3 GREAT-AUNT .. 4 PORTER"
@@ -550,6 +614,50 @@ public final class CallEdgesTest {
             due.is("23 kept over", x.keep(image), 6);
             x.undo();
             due.is("24 kept over", x.back(image), 6);
+        }
+    }
+
+    private static void imagesKeepTheOrder() {
+        for (int image = 0; image < 2; image++) {
+            DarkLeavers x = Due.told(States.SIX_LIGHT);
+            x.leaves(4, 0);
+            x.leaves(0, 3);
+            x.keep(image);
+            x.undo();
+            x.undo();
+            x.leaves(0, 3);
+            x.leaves(4, 0);
+            x.leaves(5, 5);
+            due.is("24 back", x.back(image), 2);
+            due.is("24 who was first", x.person(4, 3), 0);
+            due.is("24 who was second", x.person(0, 3), 1);
+            due.is("24 who is there", x.person(5, 3), NONE);
+            due.is("24 its lamp is lit", x.lamp(5, 2), 1);
+            due.is("24 undone", x.undo(), 1);
+            due.is("24 the lamp of the second", x.lamp(3, 2), 1);
+            due.is("24 the lamp of the first", x.lamp(0, 2), 0);
+            due.is("24 the second is there", x.person(0, 3), NONE);
+        }
+    }
+
+    /** Things seen that differ in the turn, the cell or the light alone, each with its own number of rows. */
+    private static void imagesKeepWhatWasSeen() {
+        int[][] things = {{2, 2, 1, 4}, {0, 2, 1, 12}, {2, 0, 1, 8}, {2, 2, 0, 8}, {1, 2, 0, 4}};
+        for (int[] kept : things) {
+            for (int[] other : things) {
+                DarkLeavers x = Due.told(THREE_LAMPS);
+                x.saw(kept[0], kept[1], kept[2]);
+                x.keep(1);
+                due.is("20 what is kept", x.fits(), kept[3]);
+                x.forget();
+                x.saw(other[0], other[1], other[2]);
+                x.saw(0, 0, 1);
+                due.is("20 what was seen then", x.fits(), other[3]);
+                x.back(1);
+                due.is("24 what was kept", x.fits(), kept[3]);
+                due.is("24 one thing", x.forget(), 1);
+                due.is("20 nothing seen", x.fits(), 12);
+            }
         }
     }
 

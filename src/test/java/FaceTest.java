@@ -81,6 +81,22 @@ public final class FaceTest {
             }
         }
         due.holds("twelve classes", DarkLeavers.class.getDeclaredClasses().length <= 11);
+        sizes(DarkLeavers.class);
+        for (Class<?> c : DarkLeavers.class.getDeclaredClasses()) {
+            sizes(c);
+        }
+    }
+
+    // "A method takes at most seven parameters .. a class some twenty fields beside its constants"
+    private static void sizes(Class<?> c) {
+        int fields = 0;
+        for (Field f : c.getDeclaredFields()) {
+            fields += Modifier.isStatic(f.getModifiers()) ? 0 : 1;
+        }
+        due.holds("twenty fields in " + c, fields <= 20);
+        for (Method m : c.getDeclaredMethods()) {
+            due.holds("seven parameters of " + m, m.getParameterCount() <= 7);
+        }
     }
 
     private static void source(String text) {

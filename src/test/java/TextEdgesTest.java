@@ -44,6 +44,7 @@ public final class TextEdgesTest {
         whatMayShareACell();
         theFirstFault();
         emptyText();
+        nothingOfTheHallsBefore();
         readAnew();
         aFaultCanBeMended();
         due.end();
@@ -601,6 +602,41 @@ public final class TextEdgesTest {
             due.is("no image 1", x.back(1), -2);
             due.is("none to undo", x.undo(), -2);
         }
+    }
+
+    // "THE TEXT tells all": nothing stays of the hall before, nor of the one before that.
+    private static void nothingOfTheHallsBefore() {
+        String[] texts = {"", "hall 2 2;", "lamp 3 2 9;person 3 2 4 0;", "law 1;", "door 0 0;", "wall 0 0;wall 3 2;",
+            "hall 1 1;law 1;door 0 0;lamp 0 0 0;person 0 0 7 1;", States.HALL, "lamp 0 0 1"};
+        for (String first : texts) {
+            for (String second : texts) {
+                for (String third : texts) {
+                    afterOthers(first, second, third);
+                }
+            }
+        }
+    }
+
+    private static void afterOthers(String first, String second, String third) {
+        DarkLeavers x = new DarkLeavers();
+        for (String text : new String[] {first, second, third}) {
+            x.clear();
+            Due.typeAll(x, text);
+            x.hall();
+            x.grief();
+            x.worth(0, 9);
+        }
+        boolean faulty = third.equals("lamp 0 0 1");
+        String last = !faulty ? third : second.equals(third) ? first : second;
+        DarkLeavers twin = new DarkLeavers();
+        Due.typeAll(twin, last.equals("lamp 0 0 1") ? "" : last);
+        twin.hall();
+        if (faulty) {
+            Due.typeAll(twin, third);
+        }
+        String one = Whole.of(x);
+        String other = Whole.of(twin);
+        due.holds("'" + first + "', '" + second + "', '" + third + "': " + Whole.difference(one, other), one.equals(other));
     }
 
     // "(Read anew: all are there, all is LIT, nothing SEEN, IMAGES are gone.)"

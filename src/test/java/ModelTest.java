@@ -2,6 +2,7 @@ import java.util.Random;
 
 /** Long runs of calls on an object and on the slow model; each answer must be the same. */
 public final class ModelTest {
+    private static final int LEAVES = 4;
     private static final Due due = new Due("ModelTest");
 
     private final Random random;
@@ -28,6 +29,9 @@ public final class ModelTest {
         }
         for (int seed = 3000; seed < 3300 && due.wrongs() == 0; seed++) {
             new ModelTest(seed, 6).readTexts(30);
+        }
+        for (int seed = 4000; seed < 4120 && due.wrongs() == 0; seed++) {
+            new ModelTest(seed, 4 + seed % 3).crowd();
         }
         due.end();
     }
@@ -66,6 +70,71 @@ public final class ModelTest {
                 }
                 due.is(name + "can " + n, x.can(n), model.can(n));
             }
+        }
+    }
+
+    /** Halls in which much can happen, which the texts of the other runs seldom tell; all is asked turn by turn. */
+    private void crowd() {
+        tell(crowdedText());
+        for (int turn = 0; turn < 5 && due.wrongs() == 0; turn++) {
+            askWhatCanBe();
+            askWhatWasSeen();
+            for (int tries = 0, left = model.count(4); tries < 20 && model.count(4) == left; tries++) {
+                call(LEAVES);
+            }
+        }
+    }
+
+    private String crowdedText() {
+        int wide = 2 + below(3), high = 1 + below(3), law = below(2);
+        StringBuilder text = new StringBuilder("hall " + wide + " " + high + ";law " + law + ";");
+        if (below(2) == 0) {
+            text.append("wall 1 0;");
+        }
+        for (int doors = law * (1 + below(3)); doors > 0; doors--) {
+            text.append("door ").append(spot(wide, high)).append(';');
+        }
+        int lamps = sizeLimit - below(2), people = sizeLimit - below(3);
+        for (; lamps > 0; lamps--) {
+            text.append("lamp ").append(spot(wide, high)).append(' ').append(below(below(3) == 0 ? 10 : 4)).append(';');
+        }
+        for (; people > 0; people--) {
+            text.append("person ").append(spot(wide, high)).append(' ').append(below(10)).append(' ').append(below(2));
+            text.append(';');
+        }
+        return text.toString();
+    }
+
+    /** Any cell but 1, where a wall may be. */
+    private String spot(int wide, int high) {
+        int c = below(wide * high);
+        return c == 1 ? "0 0" : c % wide + " " + c / wide;
+    }
+
+    private void askWhatCanBe() {
+        int most = model.most();
+        due.is(name + "most", x.most(), most);
+        for (int k = 0; k <= most; k++) {
+            due.is(name + "order who", x.order(k, 0), model.order(k, 0));
+            due.is(name + "order lamp", x.order(k, 1), model.order(k, 1));
+        }
+        due.is(name + "rows", x.rows(), model.rows());
+        due.is(name + "grief", x.grief(), model.grief());
+        due.is(name + "game", x.game(), model.game());
+        if (model.count(3) < 6) {
+            due.is(name + "bar", x.bar(), model.bar());
+            due.is(name + "worth", x.worth(0, 1), model.worth(0, 1));
+        }
+    }
+
+    private void askWhatWasSeen() {
+        int after = below(model.count(2)), c = below(model.count(0)), light = below(2);
+        due.is(name + "saw", x.saw(after, c, light), model.saw(after, c, light));
+        due.is(name + "fits", x.fits(), model.fits());
+        int l = below(model.count(1));
+        due.is(name + "who", x.who(l), model.who(l));
+        if (x.fits() == 0) {
+            due.is(name + "forget", x.forget(), model.forget());
         }
     }
 
@@ -142,7 +211,7 @@ public final class ModelTest {
             case 1: a = about(sizeLimit); b = about(4); due.is(name + "lamp", x.lamp(a, b), model.lamp(a, b)); break;
             case 2: a = about(sizeLimit); b = about(4); due.is(name + "person", x.person(a, b), model.person(a, b)); break;
             case 3: a = about(sizeLimit); due.is(name + "can", x.can(a), model.can(a)); break;
-            case 4: case 5: case 6:
+            case LEAVES: case 5: case 6:
                 a = about(sizeLimit);
                 b = about(sizeLimit);
                 due.is(name + "leaves", x.leaves(a, b), model.leaves(a, b));
